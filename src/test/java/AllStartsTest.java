@@ -1,0 +1,153 @@
+/** Promises 1 to 14 in long mixed runs, each answer against that of the Reference. */
+public final class AllStartsTest {
+    private static final int CALLS = 120;
+
+    // The runs must be the same every time, so the numbers are made here.
+    private static long seed = 20261115L;
+
+    public static void main(String[] args) {
+        for (int run = 0; run < 150; run++) {
+            mixedRun("few long tasks, run " + run, 3, 9, 20);
+        }
+        for (int run = 0; run < 150; run++) {
+            mixedRun("some tasks, run " + run, 4, 4, 6);
+        }
+        for (int run = 0; run < 150; run++) {
+            mixedRun("many short tasks, run " + run, 6, 3, 3);
+        }
+        Check.end();
+    }
+
+    private static int upTo(int greatest) {
+        return between(0, greatest);
+    }
+
+    private static int between(int least, int greatest) {
+        seed = seed * 6364136223846793005L + 1442695040888963407L;
+        return least + (int) ((seed >>> 33) % (greatest - least + 1));
+    }
+
+    private static int needs() {
+        if (upTo(30) == 0) {
+            return between(-70, 140);
+        }
+        return upTo(4) | upTo(4) << 3;
+    }
+
+    /** A number in the bounds, and now and then one just outside. */
+    private static int near(int least, int greatest) {
+        if (upTo(30) == 0) {
+            return upTo(1) == 0 ? least - 1 : greatest + 1;
+        }
+        return between(least, greatest);
+    }
+
+    private static int duration(int longest) {
+        if (upTo(40) == 0) {
+            return upTo(1) * 10;
+        }
+        return between(1, longest);
+    }
+
+    private static int release(int latest) {
+        if (upTo(40) == 0) {
+            return upTo(1) * 22 - 1;
+        }
+        return upTo(latest);
+    }
+
+    private static void mixedRun(String name, int most, int longest, int latest) {
+        ProjectSchedule x = new ProjectSchedule();
+        Reference y = new Reference();
+        int tasks = 0;
+        for (int call = 0; call < CALLS; call++) {
+            String what = name + ", call " + call;
+            if (tasks < most && upTo(2) == 0) {
+                int duration = duration(longest);
+                int needs = needs();
+                Check.due(what + " task", y.task(duration, needs), x.task(duration, needs));
+            } else if (upTo(1) == 0) {
+                change(what, x, y, longest, latest);
+            } else {
+                ask(what, x, y);
+            }
+            tasks = count(y);
+        }
+    }
+
+    private static int count(Reference y) {
+        int count = 0;
+        while (y.stretch(count, 0) == ProjectSchedule.BAD_NUMBER) {
+            count++;
+        }
+        return count;
+    }
+
+    private static void change(String what, ProjectSchedule x, Reference y, int longest, int latest) {
+        int last = count(y) - 1;
+        int task = near(0, Math.max(last, 0));
+        switch (upTo(10)) {
+            case 0:
+                Check.due(what + " drop", y.drop(), x.drop());
+                break;
+            case 1:
+            case 2:
+                int means = near(0, 1);
+                int capacity = upTo(3) == 0 ? near(1, 8) : between(4, 8);
+                Check.due(what + " capacity", y.capacity(means, capacity), x.capacity(means, capacity));
+                break;
+            case 3:
+            case 4:
+                int duration = duration(longest);
+                Check.due(what + " stretch", y.stretch(task, duration), x.stretch(task, duration));
+                break;
+            case 5:
+            case 6:
+                int release = release(latest);
+                int due = upTo(1) == 0 ? near(0, 99) : upTo(15);
+                Check.due(what + " times", y.times(task, release, due), x.times(task, release, due));
+                break;
+            case 7:
+                // With all six tasks there the answer is FULL or BAD_NUMBER.
+                if (last == 5) {
+                    int long9 = duration(9);
+                    int needs = needs();
+                    Check.due(what + " task", y.task(long9, needs), x.task(long9, needs));
+                }
+                break;
+            default:
+                int a = near(0, Math.max(last, 0));
+                boolean on = upTo(2) > 0;
+                Check.due(what + " precede", y.precede(a, task, on), x.precede(a, task, on));
+                break;
+        }
+    }
+
+    private static void ask(String what, ProjectSchedule x, Reference y) {
+        int task = near(0, Math.max(count(y) - 1, 0));
+        int means = near(0, 1);
+        switch (upTo(6)) {
+            case 0:
+                Check.due(what + " shortest", y.shortest(), x.shortest());
+                break;
+            case 1:
+                Check.due(what + " leastLateness", y.leastLateness(), x.leastLateness());
+                break;
+            case 2:
+                Check.due(what + " earliestEnd", y.earliestEnd(task), x.earliestEnd(task));
+                break;
+            case 3:
+                Check.due(what + " withoutLimits", y.withoutLimits(), x.withoutLimits());
+                break;
+            case 4:
+                Check.due(what + " burden", y.burden(task), x.burden(task));
+                break;
+            case 5:
+                Check.due(what + " leastCapacity", y.leastCapacity(means), x.leastCapacity(means));
+                break;
+            default:
+                Check.due(what + " critical", y.critical(), x.critical());
+                break;
+        }
+    }
+}
