@@ -14,8 +14,8 @@ public final class ProjectSchedule {
     private static final int LATEST_RELEASE = 20;
     private static final int LATEST_DUE = 99;
 
-    // A task placed as early as it fits never leaves a time at which nothing goes on
-    // behind the last release, so no end lies behind this one; the 1 is for critical().
+    // When all releases are past and all tasks placed before have ended, a task fits in any case,
+    // so none ends later than this; the 1 is for the unit more that critical() tries.
     private static final int HORIZON = LATEST_RELEASE + MOST_TASKS * LONGEST_DURATION + 1;
 
     // No task ends at 0, as every duration is 1 or more.
@@ -148,8 +148,7 @@ public final class ProjectSchedule {
         if (!someFeasiblePlan()) {
             return NONE;
         }
-        clearPlan();
-        // Precedences lead to greater numbers, so every task is ready in its turn.
+        // Precedences lead to greater numbers, so the ends a task waits for are there in its turn.
         for (int task = 0; task < taskCount; task++) {
             int ready = readyTime(task);
             end[task] = ready + duration[task];
