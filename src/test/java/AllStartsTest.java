@@ -1,19 +1,23 @@
 /** Promises 1 to 14 in long mixed runs, each answer against that of the Reference. */
 public final class AllStartsTest {
-    private static final int CALLS = 120;
+    private static final int FEW_CALLS = 120;
+    private static final int MOST_CALLS = 512;
 
     // The runs must be the same every time, so the numbers are made here.
     private static long seed = 20261115L;
 
     public static void main(String[] args) {
         for (int run = 0; run < 150; run++) {
-            mixedRun("few long tasks, run " + run, 3, 9, 20);
+            mixedRun("few long tasks, run " + run, FEW_CALLS, 3, 9, 20);
         }
         for (int run = 0; run < 150; run++) {
-            mixedRun("some tasks, run " + run, 4, 4, 6);
+            mixedRun("some tasks, run " + run, FEW_CALLS, 4, 4, 6);
         }
         for (int run = 0; run < 150; run++) {
-            mixedRun("many short tasks, run " + run, 6, 3, 3);
+            mixedRun("many short tasks, run " + run, FEW_CALLS, 6, 3, 3);
+        }
+        for (int run = 0; run < 20; run++) {
+            mixedRun("as many calls as are promised, run " + run, MOST_CALLS, 4, 4, 6);
         }
         Check.end();
     }
@@ -56,11 +60,11 @@ public final class AllStartsTest {
         return upTo(latest);
     }
 
-    private static void mixedRun(String name, int most, int longest, int latest) {
+    private static void mixedRun(String name, int calls, int most, int longest, int latest) {
         ProjectSchedule x = new ProjectSchedule();
         Reference y = new Reference();
         int tasks = 0;
-        for (int call = 0; call < CALLS; call++) {
+        for (int call = 0; call < calls; call++) {
             String what = name + ", call " + call;
             if (tasks < most && upTo(2) == 0) {
                 int duration = duration(longest);

@@ -1,18 +1,10 @@
 /** Promises 8 to 14: the calls that ask, with answers worked out by hand. */
 public final class AskingCallsTest {
-    private static final int BAD_TASK = ProjectSchedule.BAD_TASK;
-    private static final int BAD_NUMBER = ProjectSchedule.BAD_NUMBER;
     private static final int NONE = ProjectSchedule.NONE;
-    private static final int LOW = Integer.MIN_VALUE;
-    private static final int HIGH = Integer.MAX_VALUE;
 
     public static void main(String[] args) {
-        withoutTasks();
-        withoutFeasiblePlan();
-        noSuchTaskOrMeans();
         promise8();
         promise8Waiting();
-        promise8Greatest();
         promise9();
         promise10();
         promise11();
@@ -30,56 +22,6 @@ public final class AskingCallsTest {
             x.times(number, row[3], row[4]);
         }
         return x;
-    }
-
-    private static void withoutTasks() {
-        ProjectSchedule x = new ProjectSchedule();
-        Check.due("8: no tasks", NONE, x.shortest());
-        Check.due("9: no tasks", NONE, x.leastLateness());
-        Check.due("10: no tasks, BAD_TASK comes first", BAD_TASK, x.earliestEnd(0));
-        Check.due("11: no tasks", NONE, x.withoutLimits());
-        Check.due("12: no tasks, BAD_TASK comes first", BAD_TASK, x.burden(0));
-        Check.due("13: no tasks, means 0", NONE, x.leastCapacity(0));
-        Check.due("13: no tasks, means 1", NONE, x.leastCapacity(1));
-        Check.due("14: no tasks", NONE, x.critical());
-    }
-
-    private static void withoutFeasiblePlan() {
-        for (int means = 0; means < 2; means++) {
-            ProjectSchedule x = project(new int[][] {
-                {2, 1, 1, 0, 99}, {3, 3 - 2 * means, 1 + 2 * means, 0, 99}});
-            x.capacity(means, 2);
-            Check.due("8: too great a need", NONE, x.shortest());
-            Check.due("9: too great a need", NONE, x.leastLateness());
-            Check.due("10: too great a need of another", NONE, x.earliestEnd(0));
-            Check.due("10: too great a need of its own", NONE, x.earliestEnd(1));
-            Check.due("11: too great a need", NONE, x.withoutLimits());
-            Check.due("12: too great a need of another", NONE, x.burden(0));
-            Check.due("12: too great a need of its own", NONE, x.burden(1));
-            Check.due("13: too great a need, means 0", NONE, x.leastCapacity(0));
-            Check.due("13: too great a need, means 1", NONE, x.leastCapacity(1));
-            Check.due("14: too great a need", NONE, x.critical());
-            Check.due("10: BAD_TASK comes first", BAD_TASK, x.earliestEnd(2));
-            Check.due("12: BAD_TASK comes first", BAD_TASK, x.burden(2));
-            Check.due("13: BAD_NUMBER comes first", BAD_NUMBER, x.leastCapacity(2));
-            x.capacity(means, 3);
-            Check.due("8: as much as there is", 5, x.shortest());
-        }
-    }
-
-    private static void noSuchTaskOrMeans() {
-        ProjectSchedule x = project(new int[][] {{2, 1, 1, 0, 99}, {3, 1, 1, 0, 99}});
-        int[] noTask = {-1, 2, 6, LOW, HIGH};
-        for (int task : noTask) {
-            Check.due("10: earliestEnd(" + task + ")", BAD_TASK, x.earliestEnd(task));
-            Check.due("12: burden(" + task + ")", BAD_TASK, x.burden(task));
-        }
-        int[] noMeans = {-1, 2, LOW, HIGH};
-        ProjectSchedule empty = new ProjectSchedule();
-        for (int means : noMeans) {
-            Check.due("13: leastCapacity(" + means + ")", BAD_NUMBER, x.leastCapacity(means));
-            Check.due("13: BAD_NUMBER comes first", BAD_NUMBER, empty.leastCapacity(means));
-        }
     }
 
     private static void promise8() {
@@ -121,30 +63,6 @@ public final class AskingCallsTest {
         Check.due("8: a gap is filled", 7, z.shortest());
         z.stretch(2, 4);
         Check.due("8: a gap too small", 8, z.shortest());
-    }
-
-    private static void promise8Greatest() {
-        ProjectSchedule x = project(new int[][] {
-            {9, 4, 4, 20, 0}, {9, 4, 4, 20, 0}, {9, 4, 4, 20, 0},
-            {9, 4, 4, 20, 0}, {9, 4, 4, 20, 0}, {9, 4, 4, 20, 0}});
-        Check.due("8: the longest project", 74, x.shortest());
-        Check.due("9: the latest project", 74, x.leastLateness());
-        Check.due("10: of the longest project", 29, x.earliestEnd(5));
-        Check.due("11: of the longest project", 29, x.withoutLimits());
-        Check.due("12: of the longest project", 9, x.burden(3));
-        Check.due("13: of the longest project", 4, x.leastCapacity(0));
-        Check.due("14: of the longest project", 6, x.critical());
-        x.capacity(0, 8);
-        x.capacity(1, 8);
-        Check.due("8: two at a time", 47, x.shortest());
-        Check.due("13: two at a time", 8, x.leastCapacity(1));
-        Check.due("14: two at a time", 6, x.critical());
-        for (int task = 0; task < 5; task++) {
-            x.precede(task, task + 1, true);
-        }
-        Check.due("8: the longest chain", 74, x.shortest());
-        Check.due("11: the longest chain", 74, x.withoutLimits());
-        Check.due("10: the longest chain", 74, x.earliestEnd(5));
     }
 
     private static void promise9() {

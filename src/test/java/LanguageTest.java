@@ -26,7 +26,9 @@ public final class LanguageTest {
         Check.holds("no lambda, method reference, annotation or text", !found("->|::|@|\"", body));
         Check.holds("no array of arrays", !found("\\[\\]\\s*\\[|\\]\\s*\\[", body));
         arrays(body);
+        Check.holds("at most forty fields", count("\n    private (?!static)[^(){}]*;", body) <= 40);
         methods(body);
+        callsAreNotDeep(body);
         Check.end();
     }
 
@@ -51,8 +53,12 @@ public final class LanguageTest {
                 count("\\bstatic\\b", body) - count("(public|private) static final int [A-Z_]+ =", body));
     }
 
+    private static String[] split(String body) {
+        return body.split("\n    (?=(public|private) (?!static|final)[^=;]*\\{)");
+    }
+
     private static void methods(String body) {
-        String[] parts = body.split("\n    (?=(public|private) (?!static|final)[^=;]*\\{)");
+        String[] parts = split(body);
         Check.holds("methods are found", parts.length > 13);
         for (int i = 1; i < parts.length; i++) {
             String first = parts[i].substring(0, parts[i].indexOf('\n'));
@@ -62,5 +68,35 @@ public final class LanguageTest {
             Check.holds("no call in a call's arguments: " + first,
                     !found("\\b\\w+\\([^();]*\\b\\w+\\(", inside));
         }
+    }
+
+    /** Round by round, a method is as deep as the deepest one it calls and one more. */
+    private static void callsAreNotDeep(String body) {
+        String[] parts = split(body);
+        int[] depth = new int[parts.length];
+        // With recursion the depth would grow in every round, beyond all that is allowed.
+        for (int round = 0; round < parts.length; round++) {
+            for (int caller = 1; caller < parts.length; caller++) {
+                depth[caller] = 1;
+                for (int called = 1; called < parts.length; called++) {
+                    if (calls(parts[caller], parts[called])) {
+                        depth[caller] = Math.max(depth[caller], depth[called] + 1);
+                    }
+                }
+            }
+        }
+        for (int i = 1; i < parts.length; i++) {
+            Check.holds("calls at most six deep: " + name(parts[i]), depth[i] <= 6);
+        }
+    }
+
+    private static boolean calls(String caller, String called) {
+        String inside = caller.substring(caller.indexOf('{'));
+        return found("\\b" + name(called) + "\\(", inside);
+    }
+
+    private static String name(String part) {
+        String head = part.substring(0, part.indexOf('('));
+        return head.substring(head.lastIndexOf(' ') + 1);
     }
 }
