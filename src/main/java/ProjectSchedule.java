@@ -18,6 +18,10 @@ public final class ProjectSchedule {
     // so none ends later than this; the 1 is for the unit more that critical() tries.
     private static final int HORIZON = LATEST_RELEASE + MOST_TASKS * LONGEST_DURATION + 1;
 
+    private static final int PAIRS = MOST_TASKS * MOST_TASKS;
+    private static final int AMOUNTS = MEANS * MOST_TASKS;
+    private static final int USES = MEANS * HORIZON;
+
     // No task ends at 0, as every duration is 1 or more.
     private static final int NOT_PLACED = 0;
     private static final int NOT_READY = -1;
@@ -27,14 +31,14 @@ public final class ProjectSchedule {
     private final int[] duration = new int[MOST_TASKS];
     private final int[] release = new int[MOST_TASKS];
     private final int[] due = new int[MOST_TASKS];
-    private final int[] amount = new int[MEANS * MOST_TASKS];
+    private final int[] amount = new int[AMOUNTS];
     private final int[] capacityOf = new int[MEANS];
-    private final boolean[] isBefore = new boolean[MOST_TASKS * MOST_TASKS];
+    private final boolean[] isBefore = new boolean[PAIRS];
 
     // The plan that is being made.
     private final int[] order = new int[MOST_TASKS];
     private final int[] end = new int[MOST_TASKS];
-    private final int[] used = new int[MEANS * HORIZON];
+    private final int[] used = new int[USES];
 
     // The least values over the plans made so far.
     private int leastLength = FAR;
@@ -298,7 +302,7 @@ public final class ProjectSchedule {
         for (int task = 0; task < taskCount; task++) {
             end[task] = NOT_PLACED;
         }
-        for (int i = 0; i < MEANS * HORIZON; i++) {
+        for (int i = 0; i < USES; i++) {
             used[i] = 0;
         }
     }

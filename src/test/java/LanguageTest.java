@@ -47,7 +47,7 @@ public final class LanguageTest {
 
     private static void arrays(String body) {
         int made = count("\\bnew\\b", body);
-        int fields = count("\n    private final (int|boolean)\\[\\] \\w+ = new (int|boolean)\\[[A-Z_ *]+\\];", body);
+        int fields = count("\n    private final (int|boolean)\\[\\] \\w+ = new (int|boolean)\\[[A-Z_]+\\];", body);
         Check.due("objects made elsewhere than in a field's initialiser", 0, made - fields);
         Check.due("static fields that are no int constants", 0,
                 count("\\bstatic\\b", body) - count("(public|private) static final int [A-Z_]+ =", body));

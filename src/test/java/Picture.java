@@ -3,8 +3,9 @@ import java.util.List;
 import java.util.function.Supplier;
 
 /**
- * What calls can tell of an object, as a row of numbers: two objects with the same picture are in
- * the same state. Reading changes the object, so each reading takes one that was made anew.
+ * What calls can tell of an object, as a row of numbers, so that a change shows as another row.
+ * All is read as it is but the amounts, which no call tells: they show only in lengths of plans.
+ * Reading changes the object, so each reading takes one that was made anew.
  */
 final class Picture {
     // One more than there can be, so that a fault in the class can't keep a reading from ending.
