@@ -336,7 +336,8 @@ public final class ProjectSchedule {
         for (int means = 0; means < MEANS; means++) {
             int free = capacityOf[means] - amount[means * MOST_TASKS + task];
             int from = means * HORIZON + start;
-            for (int i = from; i < from + duration[task]; i++) {
+            int until = from + duration[task];
+            for (int i = from; i < until; i++) {
                 if (used[i] > free) {
                     return false;
                 }
@@ -348,7 +349,8 @@ public final class ProjectSchedule {
     private void takeMeans(int task, int start) {
         for (int means = 0; means < MEANS; means++) {
             int from = means * HORIZON + start;
-            for (int i = from; i < from + duration[task]; i++) {
+            int until = from + duration[task];
+            for (int i = from; i < until; i++) {
                 used[i] += amount[means * MOST_TASKS + task];
             }
         }

@@ -3,61 +3,51 @@ public final class AllStartsTest {
     private static final int FEW_CALLS = 120;
     private static final int MOST_CALLS = 512;
 
-    // The runs must be the same every time, so the numbers are made here.
-    private static long seed = 20261115L;
+    private static final Draw DRAW = new Draw(20261115L);
 
     public static void main(String[] args) {
         for (int run = 0; run < 150; run++) {
-            mixedRun("few long tasks, run " + run, FEW_CALLS, 3, 9, 20);
-        }
-        for (int run = 0; run < 150; run++) {
-            mixedRun("some tasks, run " + run, FEW_CALLS, 4, 4, 6);
+            mixedRun("few tasks, run " + run, FEW_CALLS, 3, 9, 20);
         }
         for (int run = 0; run < 150; run++) {
             mixedRun("many short tasks, run " + run, FEW_CALLS, 6, 3, 3);
         }
+        for (int run = 0; run < 60; run++) {
+            mixedRun("many tasks, run " + run, FEW_CALLS, 6, 9, 20);
+        }
         for (int run = 0; run < 20; run++) {
-            mixedRun("as many calls as are promised, run " + run, MOST_CALLS, 4, 4, 6);
+            mixedRun("as many calls as are promised, run " + run, MOST_CALLS, 4, 9, 20);
         }
         Check.end();
     }
 
-    private static int upTo(int greatest) {
-        return between(0, greatest);
-    }
-
-    private static int between(int least, int greatest) {
-        seed = seed * 6364136223846793005L + 1442695040888963407L;
-        return least + (int) ((seed >>> 33) % (greatest - least + 1));
-    }
-
     private static int needs() {
-        if (upTo(30) == 0) {
-            return between(-70, 140);
+        if (DRAW.upTo(30) == 0) {
+            return DRAW.between(-70, 140);
         }
-        return upTo(4) | upTo(4) << 3;
+        return DRAW.upTo(4) | DRAW.upTo(4) << 3;
     }
 
     /** A number in the bounds, and now and then one just outside. */
     private static int near(int least, int greatest) {
-        if (upTo(30) == 0) {
-            return upTo(1) == 0 ? least - 1 : greatest + 1;
+        if (DRAW.upTo(30) == 0) {
+            return DRAW.upTo(1) == 0 ? least - 1 : greatest + 1;
         }
-        return between(least, greatest);
+        return DRAW.between(least, greatest);
     }
 
     private static int duration(int longest) {
-        if (upTo(40) == 0) {
-            return upTo(1) * 10;
+        if (DRAW.upTo(40) == 0) {
+            return DRAW.upTo(1) * 10;
         }
-        return between(1, longest);
+        return DRAW.between(1, longest);
     }
 
     private static int release(int latest) {
-        if (upTo(40) == 0) {
-            return upTo(1) * 22 - 1;
+        if (DRAW.upTo(40) == 0) {
+            return DRAW.upTo(1) * 22 - 1;
         }
-        return upTo(latest);
+        return DRAW.upTo(latest);
     }
 
     private static void mixedRun(String name, int calls, int most, int longest, int latest) {
@@ -66,11 +56,11 @@ public final class AllStartsTest {
         int tasks = 0;
         for (int call = 0; call < calls; call++) {
             String what = name + ", call " + call;
-            if (tasks < most && upTo(2) == 0) {
+            if (tasks < most && DRAW.upTo(2) == 0) {
                 int duration = duration(longest);
                 int needs = needs();
                 Check.due(what + " task", y.task(duration, needs), x.task(duration, needs));
-            } else if (upTo(1) == 0) {
+            } else if (DRAW.upTo(1) == 0) {
                 change(what, x, y, longest, latest);
             } else {
                 ask(what, x, y);
@@ -90,14 +80,14 @@ public final class AllStartsTest {
     private static void change(String what, ProjectSchedule x, Reference y, int longest, int latest) {
         int last = count(y) - 1;
         int task = near(0, Math.max(last, 0));
-        switch (upTo(10)) {
+        switch (DRAW.upTo(10)) {
             case 0:
                 Check.due(what + " drop", y.drop(), x.drop());
                 break;
             case 1:
             case 2:
                 int means = near(0, 1);
-                int capacity = upTo(3) == 0 ? near(1, 8) : between(4, 8);
+                int capacity = DRAW.upTo(3) == 0 ? near(1, 8) : DRAW.between(4, 8);
                 Check.due(what + " capacity", y.capacity(means, capacity), x.capacity(means, capacity));
                 break;
             case 3:
@@ -108,7 +98,7 @@ public final class AllStartsTest {
             case 5:
             case 6:
                 int release = release(latest);
-                int due = upTo(1) == 0 ? near(0, 99) : upTo(15);
+                int due = DRAW.upTo(1) == 0 ? near(0, 99) : DRAW.upTo(15);
                 Check.due(what + " times", y.times(task, release, due), x.times(task, release, due));
                 break;
             case 7:
@@ -121,7 +111,7 @@ public final class AllStartsTest {
                 break;
             default:
                 int a = near(0, Math.max(last, 0));
-                boolean on = upTo(2) > 0;
+                boolean on = DRAW.upTo(2) > 0;
                 Check.due(what + " precede", y.precede(a, task, on), x.precede(a, task, on));
                 break;
         }
@@ -130,7 +120,7 @@ public final class AllStartsTest {
     private static void ask(String what, ProjectSchedule x, Reference y) {
         int task = near(0, Math.max(count(y) - 1, 0));
         int means = near(0, 1);
-        switch (upTo(6)) {
+        switch (DRAW.upTo(6)) {
             case 0:
                 Check.due(what + " shortest", y.shortest(), x.shortest());
                 break;

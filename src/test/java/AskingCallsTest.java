@@ -9,6 +9,7 @@ public final class AskingCallsTest {
         promise10();
         promise11();
         promise12();
+        promise12MoreThanItsDuration();
         promise13();
         promise14();
         Check.end();
@@ -137,6 +138,21 @@ public final class AskingCallsTest {
         x.capacity(1, 4);
         x.precede(0, 1, true);
         Check.due("12: a precedence stays", 0, x.burden(1));
+    }
+
+    private static void promise12MoreThanItsDuration() {
+        // Two chains of 18. The short task, from 4 to 5, needs all there is and falls into the
+        // first of the long one, from 0 to 9: either that one waits till 5, or it waits till 9.
+        ProjectSchedule x = project(new int[][] {
+            {9, 1, 0, 0, 99}, {9, 0, 0, 0, 99}, {1, 4, 0, 4, 99}, {9, 0, 0, 0, 99}, {4, 0, 0, 0, 99}});
+        x.precede(0, 1, true);
+        x.precede(2, 3, true);
+        x.precede(3, 4, true);
+        Check.due("11: each chain on its own", 18, x.withoutLimits());
+        Check.due("8: one of the chains waits", 23, x.shortest());
+        Check.due("12: a task of 1 costs 5", 5, x.burden(2));
+        Check.due("12: so does the one in its way", 5, x.burden(0));
+        Check.due("12: what comes behind costs nothing", 0, x.burden(3));
     }
 
     private static void promise13() {

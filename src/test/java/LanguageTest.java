@@ -26,6 +26,7 @@ public final class LanguageTest {
         Check.holds("no lambda, method reference, annotation or text", !found("->|::|@|\"", body));
         Check.holds("no array of arrays", !found("\\[\\]\\s*\\[|\\]\\s*\\[", body));
         arrays(body);
+        loops(body);
         Check.holds("at most forty fields", count("\n    private (?!static)[^(){}]*;", body) <= 40);
         methods(body);
         callsAreNotDeep(body);
@@ -51,6 +52,13 @@ public final class LanguageTest {
         Check.due("objects made elsewhere than in a field's initialiser", 0, made - fields);
         Check.due("static fields that are no int constants", 0,
                 count("\\bstatic\\b", body) - count("(public|private) static final int [A-Z_]+ =", body));
+    }
+
+    /** Stricter than rule 8: a counter goes up by one to a bound that is a single name. */
+    private static void loops(String body) {
+        int counted = count("\\bfor \\(int (\\w+) = [^;]+; \\1 < \\w+; \\1\\+\\+\\) \\{", body);
+        Check.holds("loops are found", counted > 0);
+        Check.due("loops without a counter and a bound", 0, count("\\b(for|while|do)\\b", body) - counted);
     }
 
     private static String[] split(String body) {

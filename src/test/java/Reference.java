@@ -1,9 +1,10 @@
 import java.util.ArrayList;
+import java.util.Comparator;
 import java.util.List;
 
 /**
- * The document once more, as slow and plain as can be: a least value is found by trying one
- * value after the other, and for each of them all starts of all tasks.
+ * The document once more, slow and plain: a least value is found by trying one value after the
+ * other, and for each of them all starts of all tasks with which none ends too late for it.
  */
 final class Reference {
     private static final int BAD_TASK = -1;
@@ -221,22 +222,39 @@ final class Reference {
                 return false;
             }
         }
-        return !tasks.isEmpty() && feasibleFrom(0, new int[2][horizon() + 1]);
+        if (tasks.isEmpty()) {
+            return false;
+        }
+        leaveTimeForThoseBehind();
+        List<Task> urgentFirst = new ArrayList<>(tasks);
+        urgentFirst.sort(Comparator.comparingInt(task -> task.deadline));
+        return feasibleFrom(0, urgentFirst, new int[2][horizon() + 1]);
     }
 
-    private boolean feasibleFrom(int number, int[][] used) {
-        if (number == tasks.size()) {
+    /** A task has to end before its deadline if one that waits for it would be late otherwise. */
+    private void leaveTimeForThoseBehind() {
+        for (int number = tasks.size() - 1; number > 0; number--) {
+            Task task = tasks.get(number);
+            for (Task before : task.before) {
+                before.deadline = Math.min(before.deadline, task.deadline - task.duration);
+            }
+        }
+    }
+
+    /** By their deadlines tasks come behind all that they wait for. */
+    private boolean feasibleFrom(int place, List<Task> row, int[][] used) {
+        if (place == row.size()) {
             return true;
         }
-        Task task = tasks.get(number);
+        Task task = row.get(place);
         int from = task.release;
         for (Task before : task.before) {
             from = Math.max(from, before.start + before.duration);
         }
-        for (task.start = from; task.start + task.duration <= task.deadline; task.start++) {
-            int start = task.start;
+        for (int start = from; start + task.duration <= task.deadline; start++) {
+            task.start = start;
             add(task, start, used, 1);
-            boolean found = within(task, start, used) && feasibleFrom(number + 1, used);
+            boolean found = within(task, start, used) && feasibleFrom(place + 1, row, used);
             add(task, start, used, -1);
             if (found) {
                 return true;
